@@ -1044,8 +1044,8 @@ public final class IceInherited {
         final int[] least = new int[CELL_LIMIT];
         final boolean[] settled = new boolean[CELL_LIMIT];
 
+        /** Forgets the ways before; what each cell costs is told anew for all cells. */
         void clear() {
-            Arrays.fill(cost, CLOSED);
             Arrays.fill(least, NONE);
             for (int x = 0; x < CELL_LIMIT; x++) {
                 settled[x] = false;

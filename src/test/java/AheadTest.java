@@ -15,6 +15,7 @@ public final class AheadTest {
         strawsThinner();
         splits();
         splitsOfSeveral();
+        smallerThanBefore();
         wrongNumbers();
         changesNothing();
         Due.end();
@@ -160,6 +161,7 @@ public final class AheadTest {
         Due.due("no cell", ice.wedding(2, 1, 1, 1), 0);
         Due.due("the most guests", ice.wedding(0, 50, 99, 0), N);
         Due.due("of several the lowest", Due.laid("r2,2;f2,1,3;").wedding(2, 1, 1, 0), 1);
+        Due.due("one guest of 1 on 1 inch", Due.laid("r2,2;f2,0,3;i1;").wedding(2, 1, 1, 0), 0);
         Due.due("one bears 44", Due.laid("r2,2;f2,0,3;i40;").wedding(2, 50, 1, 1), 4);
         Due.due("51", Due.laid("r2,2;f2,0,3;i40;").wedding(2, 1, 51, 1), 0);
     }
@@ -207,8 +209,6 @@ public final class AheadTest {
         ice.saw(2);
         ice.saw(3);
         ice.pass(1);
-        ice.sell(3, 0 + 1);
-        ice.sell(3, 0);
         return ice;
     }
 
@@ -246,6 +246,23 @@ public final class AheadTest {
         IceInherited joined = Due.laid("r2,5;f0,0,9;f1,2,2;");
         Due.due("where they join", joined.split(0, 0), 7);
         Due.due("as large", joined.split(0, 1), 4);
+    }
+
+    private static void smallerThanBefore() {
+        // What a larger river had behind the smaller one's last cell is no more.
+        IceInherited ice = Due.laid("r7,7;f0,0,48;i40;");
+        ice.wipe();
+        Due.writeAll(ice, "r2,2;f0,0,1;i8;d19;");
+        Due.due("lay", ice.lay(), 4);
+        Due.due("wedding", ice.wedding(0, 1, 10, 1), 2);
+        Due.due("too heavy", ice.wedding(0, 1, 11, 1), 0);
+        Due.due("straw", ice.straw(0, 0, 0, 17), N);
+        Due.due("straw", ice.straw(0, 0, 0, 16), 2);
+        Due.due("split", ice.split(0, 0), 0);
+        Due.due("split", ice.split(0, 1), 1);
+        Due.due("landless", ice.landless(1), 8);
+        Due.due("bears", ice.cell(3, 4), 10);
+        Due.due("toll", ice.toll(0, 10, 0, 3), 1);
     }
 
     private static void wrongNumbers() {

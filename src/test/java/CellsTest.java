@@ -39,6 +39,8 @@ public final class CellsTest {
         Due.dueCells("a channel beside", ice, 4, 50, 46, 46, 19);
         ice.saw(0);
         Due.dueCells("sawn", ice, 4, 0, 41, 41, 19);
+        // 30 + 39 / 8, and 9 + 60 / 8.
+        Due.dueCells("an eighth, cut", Due.laid("r2,2;k3,2;i30;"), 4, 37, 34, 34, 16);
     }
 
     private static void floes() {
@@ -59,6 +61,10 @@ public final class CellsTest {
                 Due.due("family(" + f + ", " + what + ")", ice.family(f, what), wants[f][what]);
             }
         }
+        IceInherited corner = Due.laid("r2,2;f2,0,0;f3,3,3;");
+        Due.due("the first cell alone", corner.family(2, 1), 1);
+        Due.due("the first cell alone", corner.family(2, 2), 1);
+        Due.due("the last cell alone", corner.family(3, 1), 1);
         ice.sell(9, 3);
         Due.due("sold to 3", ice.family(3, 0), 1);
         Due.due("sold to 3", ice.family(3, 1), 1);

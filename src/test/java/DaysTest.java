@@ -14,6 +14,7 @@ public final class DaysTest {
         sells();
         undoes();
         undoesWhatWasDone();
+        undoesTheLastEight();
         Due.end();
     }
 
@@ -101,6 +102,19 @@ public final class DaysTest {
         even.saw(4);
         even.pass(1);
         Due.due("of several the lowest", even.cell(4, 2), 1);
+        // Up, down, left and right each count alone.
+        for (int y : new int[] {1, 7, 3, 5}) {
+            IceInherited one = Due.laid("r3,3;f2," + y + "," + y + ";d25;l1;");
+            one.saw(4);
+            one.pass(1);
+            Due.due("beside at " + y, one.cell(4, 2), 2);
+        }
+        for (int y : new int[] {0, 2, 6, 8}) {
+            IceInherited one = Due.laid("r3,3;f2," + y + "," + y + ";d25;l1;");
+            one.saw(4);
+            one.pass(1);
+            Due.due("not beside at " + y, one.cell(4, 2), N);
+        }
         // A cell beside that is open has nobody's voice, even if it freezes the same day.
         IceInherited row = Due.laid("r2,4;f0,0,4;f1,3,7;f3,1,1;k5,2;k6,2;d21;l1;");
         row.saw(1);
@@ -189,6 +203,18 @@ public final class DaysTest {
         Due.due("undo no more", ice.undo(), Due.NO);
         Due.due("the first day stays", ice.count(3), 1);
         Due.due("4 inches", ice.cell(0, 1), 4);
+    }
+
+    private static void undoesTheLastEight() {
+        IceInherited ice = Due.laid("r2,2;f0,0,3;");
+        for (int i = 1; i <= 10; i++) {
+            ice.sell(0, i % 4);
+        }
+        for (int i = 9; i >= 2; i--) {
+            Due.due("undo", ice.undo(), i - 2);
+            Due.due("sold " + i + " times", ice.cell(0, 2), i % 4);
+        }
+        Due.due("undo no more", ice.undo(), Due.NO);
     }
 
     private static void undoesWhatWasDone() {

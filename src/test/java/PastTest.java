@@ -144,13 +144,28 @@ public final class PastTest {
         Due.due("down the last one", ice.across(), 2);
         ice.saw(8);
         Due.due("nothing left", ice.across(), 3);
-        // Ice goes up again ahead of the end: # . # / # . # with a way 0 3 6 7 4 1 2 5 8.
-        IceInherited bent = Due.laid("r3,5;");
-        int[] open = {1, 2, 3, 4, 6, 8, 10, 11, 12, 13};
-        for (int x : open) {
-            bent.saw(x);
+        Due.due("first column alone", openBut("r3,3;", 0, 3, 6).across(), 0);
+        Due.due("last column alone", openBut("r3,3;", 2, 5, 8).across(), 0);
+        Due.due("from the left to the right", openBut("r3,3;", 0, 3, 4, 5, 8).across(), 0);
+        // The way goes up again ahead of its end.
+        Due.due("bent", openBut("r4,5;", 0, 5, 10, 11, 12, 7, 8, 9, 14, 19).across(), 0);
+        Due.due("not beside at a corner", openBut("r3,3;", 0, 4, 8).across(), 2);
+        Due.due("not beside round a row's end", openBut("r2,3;", 2, 3).across(), 1);
+    }
+
+    private static IceInherited openBut(String text, int... withIce) {
+        IceInherited ice = Due.laid(text);
+        int cells = ice.count(0);
+        for (int x = 0; x < cells; x++) {
+            boolean sawn = true;
+            for (int y : withIce) {
+                sawn &= x != y;
+            }
+            if (sawn) {
+                ice.saw(x);
+            }
         }
-        Due.due("two pools between", bent.across(), 1);
+        return ice;
     }
 
     private static void shares() {
