@@ -330,7 +330,8 @@ public final class AheadEdgeTest {
     }
 
     private static void tollOfTheLongestWay() {
-        // Rows 1, 3 and 5 are sawn but for one end each: 31 cells from the first to the last row's begin.
+        // Rows 1, 3 and 5 are sawn but for one end each: 31 cells from the first row's begin to
+        // the last one's.
         IceInherited ice = Due.laid("r7,7;f1,0,48;");
         for (int i = 0; i < 6; i++) {
             ice.saw(7 + i);
@@ -378,7 +379,11 @@ public final class AheadEdgeTest {
         Due.due("50 guests", Due.laid("r2,2;f1,0,3;i40;").wedding(1, 50, 1, 1), 4);
         Due.due("50 guests", Due.laid("r2,2;f1,0,3;i39;").wedding(1, 50, 1, 0), N);
         Due.due("50 guests", Due.laid("r2,2;f1,0,3;i39;").wedding(1, 50, 1, 1), 0);
+        // An inch bears 1, an inch of reeds nothing.
+        Due.due("1 guest", Due.laid("r2,2;f1,0,3;i1;").wedding(1, 1, 1, 0), 0);
         Due.due("1 guest", Due.laid("r2,2;f1,0,3;i1;").wedding(1, 1, 1, 1), 4);
+        Due.due("1 guest not on reeds", Due.laid("r2,2;f1,0,3;k0,3;i1;").wedding(1, 1, 1, 0), 1);
+        Due.due("1 guest not on reeds", Due.laid("r2,2;f1,0,3;k0,3;i1;").wedding(1, 1, 1, 1), 3);
         dueBad("no guests", river -> river.wedding(0, 0, 1, 0));
         dueBad("51 guests", river -> river.wedding(0, 51, 1, 0));
         dueBad("51 guests, on how many", river -> river.wedding(0, 51, 1, 1));

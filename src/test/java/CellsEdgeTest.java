@@ -118,6 +118,14 @@ public final class CellsEdgeTest {
         Due.due("of none", ice.family(2, 0), 0);
         Due.due("of none", ice.family(2, 1), 0);
         Due.due("of none", ice.family(2, 2), 0);
+        // Each of the three asked alone, of one family and then of another.
+        IceInherited alone = Due.laid("r2,5;f0,0,4;f1,2,2;f3,5,5;f3,7,7;f3,9,9;");
+        int[][] rows = {{4, 2, 2}, {1, 1, 1}, {0, 0, 0}, {3, 3, 1}};
+        for (int what = 0; what <= 2; what++) {
+            for (int f = 0; f <= 3; f++) {
+                Due.due("family(" + f + ", " + what + ")", alone.family(f, what), rows[f][what]);
+            }
+        }
     }
 
     private static void coldIsOfDays0To199() {

@@ -30,6 +30,7 @@ public final class DaysEdgeTest {
         sellOfNobodysOrItsOwn();
         undoOfNothing();
         theLastEightCanBeUndone();
+        theLastEightDaysAndSawings();
         whatGoesByAtOneTimeIsOne();
         eachKindIsUndone();
         refusedCallsTakeNoPlace();
@@ -425,6 +426,37 @@ public final class DaysEdgeTest {
             Due.due("undo of sales", ice.undo(), left);
         }
         Due.due("sold twice", ice.cell(0, 2), 2);
+    }
+
+    private static void theLastEightDaysAndSawings() {
+        for (int often = 7; often <= 18; often++) {
+            IceInherited ice = Due.laid("r2,2;f0,0,3;i3;d21;");
+            for (int i = 1; i <= often; i++) {
+                Due.due("pass", ice.pass(1), i);
+            }
+            int can = Math.min(8, often);
+            for (int i = 1; i <= can; i++) {
+                Due.due("undo of " + often, ice.undo(), can - i);
+                Due.due("the day", ice.count(3), often - i);
+                Due.dueCells("inches", ice, 1, 3 + often - i, 3 + often - i);
+            }
+            Due.due("no more", ice.undo(), Due.NO);
+            Due.due("the day stays", ice.count(3), often - can);
+        }
+        // Nine are sawn: the first of them stays so.
+        IceInherited ice = Due.laid("r3,3;f2,0,8;");
+        for (int x = 0; x < 9; x++) {
+            ice.saw(x);
+        }
+        for (int x = 8; x >= 1; x--) {
+            Due.due("undo", ice.undo(), x - 1);
+            Due.due("its inches", ice.cell(x, 1), 3);
+            Due.due("whose", ice.cell(x, 2), 2);
+            Due.due("the one before is sawn", ice.cell(x - 1, 1), 0);
+        }
+        Due.due("no more", ice.undo(), Due.NO);
+        Due.dueCells("the first is sawn", ice, 1, 0, 3, 3, 3, 3, 3, 3, 3, 3);
+        Due.dueCells("nobody's", ice, 2, N, 2, 2, 2, 2, 2, 2, 2, 2);
     }
 
     private static void whatGoesByAtOneTimeIsOne() {

@@ -29,6 +29,7 @@ public final class PastEdgeTest {
         winterIsOf1To60Days();
         winterIsOfAFamilyOrOfCells();
         winterColdsAreLessEight();
+        winterDrawsEachDayAnew();
         winterIsFromNowOn();
         winterDaysWithoutACell();
         twoAreKeptAtMost();
@@ -459,6 +460,26 @@ public final class PastEdgeTest {
         int[] cells = {4, 4, 0, 4};
         for (int n = 1; n <= 4; n++) {
             Due.due("z 9999", Due.laid("r2,2;i9;").winter(9999, n, -1), cells[n - 1]);
+        }
+    }
+
+    private static void winterDrawsEachDayAnew() {
+        // As thick as 49, 48, .. 1: how many have ice tells what all days together took.
+        IceInherited stairs = Due.laid("r7,7;i1;d21;");
+        for (int x = 1; x <= 48; x++) {
+            stairs.saw(x);
+            stairs.pass(1);
+        }
+        Due.due("the thickest", stairs.cell(0, 1), 49);
+        Due.due("the thinnest", stairs.cell(48, 1), 1);
+        int[][] rows = {
+            {0, 41, 49, 49, 49, 41, 49}, {1, 49, 48, 49, 49, 49, 49}, {2, 48, 40, 33, 49, 49, 49},
+            {26, 49, 49, 46, 38, 38, 33}, {53, 49, 41, 33, 49, 33, 49},
+            {9998, 49, 49, 49, 49, 49, 49}, {9999, 48, 42, 40, 49, 49, 49}};
+        for (int[] row : rows) {
+            for (int n = 1; n <= 6; n++) {
+                Due.due("z " + row[0] + ", " + n + " days", stairs.winter(row[0], n, -1), row[n]);
+            }
         }
     }
 

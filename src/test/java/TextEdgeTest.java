@@ -39,6 +39,7 @@ public final class TextEdgeTest {
         coldsAreToldAgainFromTheFirst();
         coldIs0Without();
         lawsAre0To2();
+        nothingStaysOfARiverBefore();
         ofSeveralLTheLastCounts();
         faultIsTheFirstLetterOfTheFirst();
         laidIsNotEmpty();
@@ -294,7 +295,8 @@ public final class TextEdgeTest {
     }
 
     private static void dueBeside(int rows, int columns, int x, int y, boolean beside) {
-        String text = "r" + rows + "," + columns + ";f1," + x + "," + x + ";f1," + y + "," + y + ";";
+        String text = "r" + rows + "," + columns + ";f1," + x + "," + x + ";f1," + y + "," + y
+                + ";";
         Due.due(text, Due.laid(text).family(1, 1), beside ? 1 : 2);
     }
 
@@ -462,6 +464,32 @@ public final class TextEdgeTest {
         Due.due("0 without", Due.laid("i3;").count(2), 0);
     }
 
+    private static void nothingStaysOfARiverBefore() {
+        // What the second text does not tell is as without, as often as there was another one.
+        for (int often = 1; often <= 3; often++) {
+            int times = often;
+            Twins.dueLike("laid " + often + " times before", () -> {
+                IceInherited ice = new IceInherited();
+                for (int i = 0; i < times; i++) {
+                    ice.wipe();
+                    Due.writeAll(ice, "r7,7;f3,0,48;k1,3;k8,2;k48,1;i40;d40;d0;l2;");
+                    Due.due("the other one", ice.lay(), 49);
+                }
+                ice.wipe();
+                Due.writeAll(ice, "f1,1,6;");
+                Due.due("without", ice.lay(), 20);
+                return ice;
+            }, () -> Due.laid("f1,1,6;"));
+        }
+        IceInherited ice = new IceInherited();
+        for (int law : new int[] {2, 2, 0, 1, 0, 0}) {
+            ice.wipe();
+            Due.writeAll(ice, law == 0 ? "i3;" : "l" + law + ";");
+            ice.lay();
+            Due.due("the law", ice.count(2), law);
+        }
+    }
+
     private static void ofSeveralLTheLastCounts() {
         Due.due("the last", Due.laid("l1;l2;").count(2), 2);
         Due.due("the last", Due.laid("l2;l0;").count(2), 0);
@@ -490,7 +518,8 @@ public final class TextEdgeTest {
         Due.due("and the text stays", ice.write(';'), 6);
         Due.due("no fault then", ice.fault(), Due.NONE);
         Twins.dueRefused("fault", () -> Due.written("r2,3;k1"), IceInherited::fault, 5);
-        Twins.dueRefused("no fault", () -> Due.written("r2,3;k1,1;"), IceInherited::fault, Due.NONE);
+        Twins.dueRefused("no fault", () -> Due.written("r2,3;k1,1;"), IceInherited::fault,
+                Due.NONE);
     }
 
     private static void laidIsNotEmpty() {
