@@ -11,6 +11,7 @@ public final class CellsEdgeTest {
         cellIsOneThatThereIs();
         cellTellsSixThings();
         cellOfNobodyIsNone();
+        theMapHasAllCellsChannelsToo();
         familiesAre0To3();
         familyTellsThreeThings();
         theLargestIs0Without();
@@ -77,6 +78,23 @@ public final class CellsEdgeTest {
         Due.dueCells("whose on the map still", ice, 3, 0, 0, N, N);
         Due.dueCells("its floe", ice, 5, 0, 1, 0, 0);
         Twins.dueRefused("cell of nobody", CellsEdgeTest::aRiver, river -> river.cell(5, 2), N);
+    }
+
+    private static void theMapHasAllCellsChannelsToo() {
+        for (int law = 0; law <= 2; law++) {
+            IceInherited ice = Due.laid("r2,3;k1,2;k5,2;f1,0,1;f2,4,4;i1;d15;d40;l" + law + ";");
+            for (int day = 0; day <= 4; day++) {
+                Due.dueCells("on the map on day " + day, ice, 3, 1, 1, N, N, 2, N);
+                Due.due("a channel of the map", ice.cell(1, 2), N);
+                Due.due("a channel of none", ice.cell(5, 2), N);
+                ice.pass(1);
+            }
+            ice.saw(1);
+            Due.dueCells("on the map, sawn", ice, 3, 1, 1, N, N, 2, N);
+        }
+        IceInherited later = Due.laid("r2,2;f3,0,3;f0,2,3;k0,2;k3,2;");
+        Due.dueCells("a kind told behind the map", later, 3, 3, 3, 0, 0);
+        Due.dueCells("whose", later, 2, N, 3, 0, N);
     }
 
     private static void familiesAre0To3() {

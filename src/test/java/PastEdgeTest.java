@@ -12,6 +12,7 @@ public final class PastEdgeTest {
         drilledIsToldToBe0To60();
         drilledIsOfCellsThatThereAre();
         forgetAnswersHowManyWere();
+        onlyLayAndForgetEndWhatIsDrilled();
         nothingDrilledIsSoWithAllColds();
         coldsAreC0To40();
         coldsOfAllThatIsDrilled();
@@ -144,6 +145,43 @@ public final class PastEdgeTest {
         // Behind lay nothing is drilled.
         Due.due("lay", ice.lay(), 4);
         Due.due("forget", ice.forget(), 0);
+    }
+
+    private static void onlyLayAndForgetEndWhatIsDrilled() {
+        IceInherited ice = Due.laid("r2,3;f0,0,3;f1,2,5;i9;d25;d15;");
+        ice.drill(0, 12);
+        ice.drill(1, 12);
+        dueDrilled("from 9 inches", ice, 23);
+        ice.keep();
+        ice.pass(1);
+        dueDrilled("behind pass, from 14", ice, 18);
+        ice.undo();
+        dueDrilled("behind undo, from 9", ice, 23);
+        ice.pass(1);
+        ice.back();
+        dueDrilled("behind back, from 9", ice, 23);
+        ice.saw(5);
+        ice.sell(4, 0);
+        dueDrilled("behind saw and sell", ice, 23);
+        ice.saw(0);
+        Due.due("0 and 9 inches", ice.colds(0), 0);
+        ice.undo();
+        dueDrilled("behind undo of that", ice, 23);
+        ice.wipe();
+        dueDrilled("behind wipe", ice, 23);
+        Due.due("lay of nothing", ice.lay(), Due.NO);
+        dueDrilled("behind lay, refused", ice, 23);
+        Due.writeAll(ice, "i9;");
+        dueDrilled("behind write", ice, 23);
+        Due.due("lay", ice.lay(), 20);
+        Due.due("nothing drilled", ice.count(7), 0);
+        Due.due("all colds", ice.colds(0), 41);
+    }
+
+    private static void dueDrilled(String name, IceInherited ice, int cold) {
+        Due.due(name + ": drilled", ice.count(7), 2);
+        Due.due(name + ": how many colds", ice.colds(0), 1);
+        Due.due(name + ": the lowest", ice.colds(1), cold);
     }
 
     private static void nothingDrilledIsSoWithAllColds() {
